@@ -90,6 +90,16 @@ public final class PromisesTest {
     due.is("seen", x.count(7), 0);
     due.is("finding", x.count(8), 0);
     for (int s = 0; s < 4; s++) due.is("lose", x.lose(s), NULL);
+    // asked first of all, before anything was told
+    due.is("over", new MilkHorse().over(), 0);
+    due.is("left", new MilkHorse().sum(4), 40);
+    due.is("lacks", new MilkHorse().lacks(), 0);
+    due.is("better", new MilkHorse().better(0), 0);
+    due.is("fit", new MilkHorse().fit(0), 1);
+    due.is("swap", new MilkHorse().swap(0), NONE);
+    due.is("spare", new MilkHorse().spare(NONE), 0);
+    due.is("ask", new MilkHorse().ask(), 0);
+    due.is("chance", new MilkHorse().chance(3, 3, 0), 1);
     due.is("NONE", MilkHorse.NONE, NONE);
     due.is("BAD", MilkHorse.BAD, BAD);
     due.is("NOT", MilkHorse.NOT, NOT);
@@ -156,6 +166,11 @@ public final class PromisesTest {
     due.is("fault(-1)", x.fault(-1), BAD);
     due.is("fault(3)", x.fault(3), BAD);
     for (int text = 0; text < 3; text++) due.is("fault of an empty one", x.fault(text), NONE);
+    for (int text = 0; text < 3; text++) {
+      x.type(text, '#');
+      due.is("fault of the first", x.fault(text), 0);
+      x.wipe(text);
+    }
     int[] low = {'0', '0', 'a'};
     int[] high = {'5', '5', 'l'};
     for (int text = 0; text < 3; text++) {
@@ -270,6 +285,13 @@ public final class PromisesTest {
     x.sheet(2, 2, 60);
     due.is("read until it is full", x.read(2), 3);
     due.is("read when it is full", x.read(2), 0);
+    MilkHorse y = street("5", "", "a");
+    y.sheet(0, 0, 3);
+    y.put(0, 0, 0, 2);
+    y.put(0, 0, 1, 30);
+    due.is("broken", y.sum(2), 0);
+    due.is("read of just one", y.read(0), 1);
+    due.is("broken", y.sum(2), 1);
     due.is("events", x.count(2), 8);
   }
 
@@ -312,6 +334,11 @@ public final class PromisesTest {
     x = street("1", "5", "a");
     minute(x, 1, 0, 0, 3, 1, 3);
     due.is("empties at the door", x.door(1, 0, 2), 4);
+    // and what other empties leave: 0 fills, 1 serves a, 2 to b, 3 serves b, where room is for one more
+    x = street("21", "14", "ab");
+    minute(x, 1, 0, 0, 2, 1, 3);
+    minute(x, 3, 1, 0, 1, 3, 3);
+    due.is("empties at the door", x.door(3, 1, 2), 2);
     // the cart has less than there is room for, then none
     x = street("5", "1", "a");
     x.set(2, 3);
@@ -355,6 +382,11 @@ public final class PromisesTest {
     x.event(0, 1, 0);
     x.event(0, 2, 3);
     men(x, 4, 2, 1, 1, 1, 3, 0);
+    // two dogs in one minute
+    x = street("0002", "", "d");
+    x.event(0, 1, 1);
+    x.event(0, 1, 9);
+    men(x, 4, 2, 4, 1, 1, 1, 3, 0);
     // on his way back to the cart
     x = street("0003", "", "d");
     x.set(0, 0);
@@ -523,6 +555,13 @@ public final class PromisesTest {
     due.is("fit", x.fit(1), 1);
     due.is("fit", x.fit(0), 2);
     due.is("fit", x.fit(2), 4);
+    x = street("05003", "", "be");
+    due.is("fit is the greatest", x.fit(0), 8);
+    due.is("fit is the greatest", x.fit(2), 4);
+    x = street("0001", "", "d");
+    due.is("fit is the least", x.fit(0), 1);
+    x.set(0, 0);
+    due.is("fit is the least", x.fit(2), 3);
   }
 
   // promise 20
@@ -579,7 +618,13 @@ public final class PromisesTest {
     x.back();
     x.set(2, 3);
     spares(x, NONE, NONE, NONE);
-    // of two dogs either may go; the least row is told
+    // the very first event alone, then with another
+    x = street("4", "", "a");
+    x.event(2, 9, 0);
+    spares(x, 1, 0, NONE);
+    x.event(2, 8, 0);
+    spares(x, 2, 0, 1);
+    // dogs, each of which alone makes him too late
     x = toTheLastMinute();
     x.event(2, 0, 0);
     x.event(0, 46, 11);
@@ -685,6 +730,12 @@ public final class PromisesTest {
     due.is("ask of one", x.ask(), 0);
     x.seen(9, 3);
     due.is("ask of none", x.ask(), 0);
+    // in minute 5 he rests by eight, and goes back to the cart by six and seven
+    x = street("053", "", "bc");
+    x.seen(2, 1);
+    x.seen(3, 2);
+    due.is("might(1)", x.might(1), 448);
+    due.is("ask", x.ask(), 5);
   }
 
   private static void fraction(MilkHorse x, int c, int door, long above, long below) {
@@ -876,6 +927,7 @@ public final class PromisesTest {
       x.sheet(form, form, 5 + form);
       due.is("write", x.write(0, form), 5 + form);
       row(x, form, form, 0, 1, 2, 3, 3);
+      x.put(form, form, 0, 9);
       due.is("write", x.write(1, form), 5 + form);
       row(x, form, form, 0, 0, 1, 2, 2);
     }

@@ -1,0 +1,122 @@
+import java.lang.reflect.Constructor;
+import java.lang.reflect.Field;
+import java.lang.reflect.Method;
+import java.lang.reflect.Modifier;
+import java.nio.file.Files;
+import java.nio.file.Path;
+import java.util.HashSet;
+import java.util.List;
+import java.util.Set;
+import java.util.TreeSet;
+import java.util.regex.Matcher;
+import java.util.regex.Pattern;
+
+/** The class looks as the document's face does, and the rules of the language that can be looked up here hold. */
+public final class FaceTest {
+  private static final Due due = new Due("FaceTest");
+
+  private static final List<String> FACE = List.of("int type(int,int)", "int wipe(int)", "int undo(int)",
+      "int fault(int)", "int told(int,int)", "int round(int)", "int set(int,int)", "int event(int,int,int)",
+      "int back()", "int read(int)", "int at(int,int)", "int door(int,int,int)", "int done(int)", "int sum(int)",
+      "int over()", "int lacks()", "int better(int)", "int fit(int)", "int swap(int)", "int spare(int)",
+      "int seen(int,int)", "int forget()", "int never()", "int numbers(int)", "int might(int)", "int ask()",
+      "long chance(int,int,int)", "int mornings(int,int,int)", "int sheet(int,int,int)", "int lose(int)",
+      "int put(int,int,int,int)", "int get(int,int,int)", "int copy(int,int,int,int,int)", "int write(int,int)",
+      "int count(int)", "long digest()");
+
+  public static void main(String[] args) throws Exception {
+    members();
+    classesInside();
+    words();
+    methodsAreShort();
+    due.end();
+  }
+
+  private static void members() {
+    Class<?> c = MilkHorse.class;
+    due.holds("public and final", Modifier.isPublic(c.getModifiers()) && Modifier.isFinal(c.getModifiers()));
+    Set<String> found = new TreeSet<>();
+    Set<String> names = new HashSet<>();
+    for (Method m : c.getDeclaredMethods()) {
+      if (m.isSynthetic() || Modifier.isPrivate(m.getModifiers())) continue;
+      StringBuilder s = new StringBuilder(m.getReturnType() + " " + m.getName() + "(");
+      for (Class<?> p : m.getParameterTypes()) s.append(s.charAt(s.length() - 1) == '(' ? "" : ",").append(p);
+      found.add(s.append(")").toString());
+      names.add(m.getName());
+      due.holds(m + " is public, of an object", m.getModifiers() == Modifier.PUBLIC);
+    }
+    due.holds("the face: " + found, found.equals(new TreeSet<>(FACE)));
+    privateNames(c, names);
+    for (Class<?> in : c.getDeclaredClasses()) privateNames(in, names);
+    Constructor<?>[] made = c.getDeclaredConstructors();
+    due.holds("one constructor", made.length == 1 && Modifier.isPublic(made[0].getModifiers())
+        && made[0].getParameterCount() == 0);
+    int constants = 0;
+    int own = 0;
+    for (Field f : c.getDeclaredFields()) {
+      if (Modifier.isPrivate(f.getModifiers())) {
+        if (!Modifier.isStatic(f.getModifiers())) own++;
+        due.holds(f + " static means final", !Modifier.isStatic(f.getModifiers()) || Modifier.isFinal(f.getModifiers()));
+      } else {
+        constants++;
+        due.holds(f + " is a constant", Set.of("NONE", "BAD", "NOT", "FULL").contains(f.getName()));
+      }
+    }
+    due.is("constants", constants, 4);
+    due.holds("some twenty fields", own <= 20);
+  }
+
+  private static void privateNames(Class<?> c, Set<String> face) {
+    for (Method m : c.getDeclaredMethods()) {
+      if (c == MilkHorse.class && !Modifier.isPrivate(m.getModifiers())) continue;
+      due.holds(m + " bears the name of a public one", !face.contains(m.getName()));
+    }
+  }
+
+  private static void classesInside() {
+    Class<?>[] inside = MilkHorse.class.getDeclaredClasses();
+    due.holds("some twelve classes", inside.length <= 11);
+    for (Class<?> c : inside) {
+      due.holds(c + " is static", Modifier.isStatic(c.getModifiers()));
+      due.holds(c + " is not public", !Modifier.isPublic(c.getModifiers()) && !Modifier.isProtected(c.getModifiers()));
+      int fields = 0;
+      for (Field f : c.getDeclaredFields()) if (!Modifier.isStatic(f.getModifiers())) fields++;
+      due.holds(c + " has some twenty fields", fields <= 20);
+      for (Method m : c.getDeclaredMethods()) due.holds(m + " takes seven", m.getParameterCount() <= 7);
+    }
+  }
+
+  private static String source() throws Exception {
+    String s = Files.readString(Path.of("src/main/java/MilkHorse.java"));
+    return s.replaceAll("(?s)/\\*.*?\\*/", "").replaceAll("//[^\n]*", "");
+  }
+
+  private static void words() throws Exception {
+    String s = source();
+    for (String word : List.of("throw", "throws", "try", "catch", "synchronized", "assert", "package", "protected",
+        "Exact", "System\\.(?!arraycopy)\\w+", "->", "::", "Random", "Thread", "hashCode", "toString", "var", "record",
+        "while", "Object", "Iterator")) {
+      String pattern = word.matches("\\w+") ? "\\b" + word + "\\b" : word;
+      due.holds("no " + word, !Pattern.compile(pattern).matcher(s).find());
+    }
+    Matcher imports = Pattern.compile("import ([^;]*);").matcher(s);
+    while (imports.find()) due.holds("import " + imports.group(1), imports.group(1).equals("java.util.Arrays"));
+    due.holds("signs 1 to 127", s.chars().allMatch(c -> c >= 1 && c <= 127));
+  }
+
+  private static void methodsAreShort() throws Exception {
+    Pattern heads = Pattern.compile("^( {4}| {8})(?!if|for|else|switch|private static final class|public final class)"
+        + "[a-zA-Z]\\w*.*\\) \\{$");
+    String[] lines = source().split("\n");
+    int methods = 0;
+    for (int i = 0; i < lines.length; i++) {
+      Matcher head = heads.matcher(lines[i]);
+      if (!head.matches()) continue;
+      int end = i;
+      while (end < lines.length && !lines[end].equals(head.group(1) + "}")) end++;
+      due.holds(lines[i].trim() + " is short", end - i <= 60);
+      methods++;
+    }
+    due.holds("methods were found", methods > FACE.size());
+  }
+}
