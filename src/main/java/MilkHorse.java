@@ -364,7 +364,9 @@ public final class MilkHorse {
             case 0: return told.places;
             case 1: return wantsText.length + emptiesText.length + roundText.length;
             case 2: return events.many;
-            case 3: return Integer.bitCount(lacks());
+            case 3:
+                learnDay();
+                return Integer.bitCount(day.lacking);
             case 4: return told.horse;
             case 5: return told.room;
             case 6: return told.cart;

@@ -1,3 +1,10 @@
+import com.sun.source.tree.CompilationUnitTree;
+import com.sun.source.tree.MethodInvocationTree;
+import com.sun.source.tree.MethodTree;
+import com.sun.source.tree.NewClassTree;
+import com.sun.source.util.JavacTask;
+import com.sun.source.util.TreePathScanner;
+import com.sun.source.util.Trees;
 import java.lang.reflect.Constructor;
 import java.lang.reflect.Field;
 import java.lang.reflect.Method;
@@ -6,10 +13,16 @@ import java.nio.file.Files;
 import java.nio.file.Path;
 import java.util.HashSet;
 import java.util.List;
+import java.util.Map;
 import java.util.Set;
+import java.util.TreeMap;
 import java.util.TreeSet;
 import java.util.regex.Matcher;
 import java.util.regex.Pattern;
+import javax.lang.model.element.Element;
+import javax.tools.JavaCompiler;
+import javax.tools.StandardJavaFileManager;
+import javax.tools.ToolProvider;
 
 /** The class looks as the document's face does, and the rules of the language that can be looked up here hold. */
 public final class FaceTest {
@@ -29,6 +42,7 @@ public final class FaceTest {
     classesInside();
     words();
     methodsAreShort();
+    callsAreNotDeep();
     due.end();
   }
 
@@ -118,5 +132,78 @@ public final class FaceTest {
       methods++;
     }
     due.holds("methods were found", methods > FACE.size());
+  }
+
+  /** Rule 11: calls go eight deep at most, those of the library among them; none of them is a recursion. */
+  private static void callsAreNotDeep() throws Exception {
+    Map<String, Set<String>> calls = callsOfEachMethod();
+    due.holds("calls were found", calls.size() > FACE.size());
+    for (String method : calls.keySet()) {
+      String deepest = deepest(method, calls, 12);
+      due.holds(deepest + " is eight deep at most", deepest.split(" > ").length <= 8);
+    }
+  }
+
+  private static String deepest(String method, Map<String, Set<String>> calls, int most) {
+    String best = "";
+    int deep = 0;
+    if (most > 0) {
+      for (String called : calls.getOrDefault(method, Set.of())) {
+        String chain = deepest(called, calls, most - 1);
+        int length = chain.split(" > ").length;
+        if (length > deep) best = " > " + chain;
+        deep = Math.max(deep, length);
+      }
+    }
+    return method + best;
+  }
+
+  private static Map<String, Set<String>> callsOfEachMethod() throws Exception {
+    Map<String, Set<String>> calls = new TreeMap<>();
+    JavaCompiler compiler = ToolProvider.getSystemJavaCompiler();
+    try (StandardJavaFileManager files = compiler.getStandardFileManager(null, null, null)) {
+      JavacTask task = (JavacTask) compiler.getTask(null, files, null, List.of("-proc:none"), null,
+          files.getJavaFileObjects(Path.of("src/main/java/MilkHorse.java")));
+      Iterable<? extends CompilationUnitTree> units = task.parse();
+      task.analyze();
+      CallScanner scanner = new CallScanner(Trees.instance(task), calls);
+      for (CompilationUnitTree unit : units) scanner.scan(unit, null);
+    }
+    return calls;
+  }
+
+  /** Takes down which methods each method calls; what it goes through carries the method's name. */
+  private static final class CallScanner extends TreePathScanner<Void, String> {
+    private final Trees trees;
+    private final Map<String, Set<String>> calls;
+
+    CallScanner(Trees trees, Map<String, Set<String>> calls) {
+      this.trees = trees;
+      this.calls = calls;
+    }
+
+    @Override
+    public Void visitMethod(MethodTree tree, String in) {
+      String name = nameHere();
+      calls.putIfAbsent(name, new TreeSet<>());
+      return super.visitMethod(tree, name);
+    }
+
+    @Override
+    public Void visitMethodInvocation(MethodInvocationTree tree, String in) {
+      if (in != null) calls.get(in).add(nameHere());
+      return super.visitMethodInvocation(tree, in);
+    }
+
+    @Override
+    public Void visitNewClass(NewClassTree tree, String in) {
+      if (in != null) calls.get(in).add(nameHere());
+      return super.visitNewClass(tree, in);
+    }
+
+    private String nameHere() {
+      Element e = trees.getElement(getCurrentPath());
+      return e.getEnclosingElement().getSimpleName() + "." + e;
+    }
   }
 }
