@@ -106,6 +106,17 @@ abstract class Boundaries {
     refused(call, made, c, want);
   }
 
+  /** What is told behind all answers is heard like what is told ahead of them. */
+  static void heard(String call, Made made, Call c) {
+    MilkHorse x = made.anew();
+    long before = x.digest();
+    long got = c.on(x);
+    MilkHorse y = made.anew();
+    is(call + " behind answers", got, c.on(y));
+    is("digest() behind " + call, x.digest(), y.digest());
+    holds(call + " changes something", x.digest() != before);
+  }
+
   /** Numbers below the least and above the most are BAD, the nearest and the farthest ones too. */
   static void badOutside(String call, int least, int most, CallWith c) {
     outside(call, least, most, c, BAD);

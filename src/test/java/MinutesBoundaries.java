@@ -410,6 +410,17 @@ final class MinutesBoundaries extends Boundaries {
     minutes(x, 4, STOOD, WENT, WENT, SERVED);
   }
 
+  static void promise12_dogsAtTwoDoorsInAMinute_areBothThere() {
+    MilkHorse x = street("", "", "c");
+    x.event(DOG, 0, 1);
+    x.event(DOG, 0, 5);
+    is("the first told", x.at(0, 4), STOOD);
+    MilkHorse y = street("", "", "c");
+    y.event(DOG, 0, 5);
+    y.event(DOG, 0, 1);
+    is("the last told", y.at(0, 4), STOOD);
+  }
+
   static void promise12_dog_doesNotHinderTheHorse() {
     MilkHorse x = street("", "", "c");
     x.event(DOG, 1, 1);

@@ -364,6 +364,14 @@ final class SeenBoundaries extends Boundaries {
     is("ask", x.ask(), 47);
   }
 
+  static void promise27_room8_isAmongThem() {
+    // rooms 6 to 8 fit; behind minute 5 rooms 6 and 7 are on the way back, room 8 is done
+    MilkHorse x = street("053", "", "bc");
+    x.seen(3, 2);
+    is("rooms", x.might(1), 448);
+    is("ask", x.ask(), 5);
+  }
+
   static void promise27_roomThatIs_stays() {
     onlyAnswers("ask", Boundaries::busy, x -> x.ask(), busy().ask());
   }

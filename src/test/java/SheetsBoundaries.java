@@ -677,6 +677,26 @@ final class SheetsBoundaries extends Boundaries {
         digestByCalls(withEvents(longMorning(), 8, DOG, 47, 11)));
   }
 
+  static void promise37_minutes8And30_areTheOnesAsked() {
+    for (int minute : new int[] {8, 9, 30, 31}) {
+      Made made = () -> withEvents(street("1", "", "a"), 1, CAT, minute, 0);
+      is("a cat in " + minute, made.anew().digest(), digestByCalls(made.anew()));
+    }
+  }
+
+  static void promise37_nineLotsBySeed7_areTheOnesAsked() {
+    // door 1 wants two, door 8 five, a tenth lot would be one: he would walk back for that one
+    for (String round : new String[] {"i", "bj"}) {
+      Made made = () -> {
+        MilkHorse x = street("", "", round);
+        x.set(HORSE, WAITS);
+        x.set(ROOM, 1);
+        return x;
+      };
+      is("round " + round, made.anew().digest(), digestByCalls(made.anew()));
+    }
+  }
+
   private static MilkHorse fullStreet() {
     MilkHorse x = street(times(12, "5"), times(12, "5"), times(2, "abcdefghijkl"));
     x.set(ROOM, 8);

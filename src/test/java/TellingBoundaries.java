@@ -189,6 +189,20 @@ final class TellingBoundaries extends Boundaries {
     is("type behind it", x.type(0, '1'), 3);
   }
 
+  static void promise02_byteBehindAllAnswers_isHeard() {
+    heard("type to wants", Boundaries::busy, x -> x.type(0, 'x'));
+    heard("type to empties", () -> dogged("a"), x -> x.type(1, '5'));
+    heard("type to the round", () -> dogged("a"), x -> x.type(2, 'l'));
+  }
+
+  /** A long morning with a dog in its last minute, and a cat. */
+  private static MilkHorse dogged(String round) {
+    MilkHorse x = longMorning(round);
+    x.event(DOG, 47, 11);
+    x.event(CAT, 40, 0);
+    return x;
+  }
+
   private static MilkHorse full(int text, int b) {
     MilkHorse x = new MilkHorse();
     for (int i = 0; i < MOST_BYTES[text]; i++) x.type(text, b);
@@ -241,6 +255,12 @@ final class TellingBoundaries extends Boundaries {
     is("digest", x.digest(), street("213", "", "cab").digest());
     x.wipe(0);
     is("digest", x.digest(), street("", "", "cab").digest());
+  }
+
+  static void promise03_wipeBehindAllAnswers_isHeard() {
+    heard("wipe of wants", () -> dogged("aal"), x -> x.wipe(0));
+    heard("wipe of the round", () -> dogged("aal"), x -> x.wipe(2));
+    heard("wipe of empties", Boundaries::busy, x -> x.wipe(1));
   }
 
   // ---- promise 4: undo
@@ -300,6 +320,12 @@ final class TellingBoundaries extends Boundaries {
     is("undo", x.undo(0), 11);
     is("told(11)", x.told(11, 0), 0);
     is("told(10)", x.told(10, 0), 1);
+  }
+
+  static void promise04_undoBehindAllAnswers_isHeard() {
+    heard("undo of wants", () -> dogged("aal"), x -> x.undo(0));
+    heard("undo of the round", () -> dogged("aal"), x -> x.undo(2));
+    heard("undo of empties", Boundaries::busy, x -> x.undo(1));
   }
 
   // ---- promise 5: fault
@@ -528,6 +554,12 @@ final class TellingBoundaries extends Boundaries {
     is("set", x.set(ROOM, 8), 4);
   }
 
+  static void promise08_setBehindAllAnswers_isHeard() {
+    heard("horse", () -> dogged("aal"), x -> x.set(HORSE, SLOW));
+    heard("room", () -> dogged("aal"), x -> x.set(ROOM, 8));
+    heard("cart", () -> dogged("aal"), x -> x.set(CART, 0));
+  }
+
   // ---- promise 9: event
 
   static void promise09_kindBelow0OrAbove2_isBad() {
@@ -598,6 +630,12 @@ final class TellingBoundaries extends Boundaries {
     }
   }
 
+  static void promise09_eventBehindAllAnswers_isHeard() {
+    heard("cat", () -> dogged("aal"), x -> x.event(CAT, 41, 0));
+    heard("dog", Boundaries::longMorning, x -> x.event(DOG, 47, 11));
+    heard("whistle", () -> dogged("aal"), x -> x.event(WHISTLE, 30, 0));
+  }
+
   private static MilkHorse eightCats() {
     return withEvents(street("5", "", "a"), 8, CAT, 10, 0);
   }
@@ -645,6 +683,11 @@ final class TellingBoundaries extends Boundaries {
     holds("the dog is felt", x.digest() != before);
     x.back();
     is("digest", x.digest(), before);
+  }
+
+  static void promise10_backBehindAllAnswers_isHeard() {
+    heard("back", () -> dogged("aal"), x -> x.back());
+    heard("back of the dog", () -> withEvents(longMorning(), 1, DOG, 47, 11), x -> x.back());
   }
 
   // ---- promise 11: read
@@ -791,6 +834,16 @@ final class TellingBoundaries extends Boundaries {
     is("read again", x.read(0), 3);
     is("read once more", x.read(0), 0);
     is("back", x.back(), 7);
+  }
+
+  static void promise11_readBehindAllAnswers_isHeard() {
+    heard("one", () -> withRow(longMorning(), DOG, 47, 11), x -> x.read(0));
+    heard("two", () -> withRow(longMorning(), DOG, 47, 11, CAT, 40, 0), x -> x.read(0));
+  }
+
+  private static MilkHorse withRow(MilkHorse x, int... items) {
+    makeRow(x, 0, BYTES, items);
+    return x;
   }
 
   static void promise11_sheet_stays() {
