@@ -20,6 +20,9 @@ public final class MilkHorse {
     private static final int NULL_FOUND = 1, INDEX_FOUND = 2, CAST_FOUND = 3, STORE_FOUND = 4;
     private static final int SIZE_FOUND = 5;
     private static final int SIXTEEN = 16, SIXTEEN_BITS = 4;
+    // written out, as the library's own names for them are not among what LANGUAGE.md lists
+    private static final int LEAST_INT = 1 << 31;
+    private static final long LEAST_LONG = 1L << 63;
 
     private final Text wantsText = new Text(DOORS, '0', '5');
     private final Text emptiesText = new Text(DOORS, '0', '5');
@@ -272,7 +275,7 @@ public final class MilkHorse {
 
     public long chance(int c, int door, int what) {
         if (c < 0 || c > SIXTEEN || !isDoor(door) || what < 0 || what > 1) {
-            return Long.MIN_VALUE - BAD;
+            return LEAST_LONG - BAD;
         }
         if (!chances.known) learnChances();
         long above = chances.weigh(c, door, events.many);
@@ -327,11 +330,11 @@ public final class MilkHorse {
 
     public int get(int s, int form, int i) {
         Sheet sheet = sheetOf(s);
-        if (sheet == null || !isForm(form)) return Integer.MIN_VALUE;
+        if (sheet == null || !isForm(form)) return LEAST_INT;
         int refusal = sheet.refusal(form, i);
         if (refusal != 0) {
             finding = refusal;
-            return Integer.MIN_VALUE;
+            return LEAST_INT;
         }
         return sheet.item(i);
     }

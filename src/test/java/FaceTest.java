@@ -1,4 +1,5 @@
 import com.sun.source.tree.CompilationUnitTree;
+import com.sun.source.tree.MemberSelectTree;
 import com.sun.source.tree.MethodInvocationTree;
 import com.sun.source.tree.MethodTree;
 import com.sun.source.tree.NewClassTree;
@@ -17,9 +18,11 @@ import java.util.Map;
 import java.util.Set;
 import java.util.TreeMap;
 import java.util.TreeSet;
+import java.util.function.Function;
 import java.util.regex.Matcher;
 import java.util.regex.Pattern;
 import javax.lang.model.element.Element;
+import javax.lang.model.element.ElementKind;
 import javax.tools.JavaCompiler;
 import javax.tools.StandardJavaFileManager;
 import javax.tools.ToolProvider;
@@ -37,12 +40,18 @@ public final class FaceTest {
       "int put(int,int,int,int)", "int get(int,int,int)", "int copy(int,int,int,int,int)", "int write(int,int)",
       "int count(int)", "long digest()");
 
+  /** What of rule 4 the program has a use for so far; Array.length is the length of a row. */
+  private static final Set<String> LIBRARY = Set.of("Array.length", "java.lang.Integer.bitCount",
+      "java.lang.Math.abs", "java.lang.Math.max", "java.lang.Math.min", "java.lang.System.arraycopy",
+      "java.util.Arrays.fill");
+
   public static void main(String[] args) throws Exception {
     members();
     classesInside();
     words();
     methodsAreShort();
     callsAreNotDeep();
+    libraryIsWhatTheRulesList();
     due.end();
   }
 
@@ -134,6 +143,14 @@ public final class FaceTest {
     due.holds("methods were found", methods > FACE.size());
   }
 
+  /** Rule 4: of the library only the functions that it lists; a constant such as the least int is not among them. */
+  private static void libraryIsWhatTheRulesList() throws Exception {
+    Set<String> used = new TreeSet<>();
+    scan(trees -> new LibraryScanner(trees, used));
+    due.holds("uses of the library were found", !used.isEmpty());
+    for (String name : used) due.holds(name + " is in rule 4", LIBRARY.contains(name));
+  }
+
   /** Rule 11: calls go eight deep at most, those of the library among them; none of them is a recursion. */
   private static void callsAreNotDeep() throws Exception {
     Map<String, Set<String>> calls = callsOfEachMethod();
@@ -160,16 +177,41 @@ public final class FaceTest {
 
   private static Map<String, Set<String>> callsOfEachMethod() throws Exception {
     Map<String, Set<String>> calls = new TreeMap<>();
+    scan(trees -> new CallScanner(trees, calls));
+    return calls;
+  }
+
+  private static void scan(Function<Trees, TreePathScanner<Void, String>> scannerOf) throws Exception {
     JavaCompiler compiler = ToolProvider.getSystemJavaCompiler();
     try (StandardJavaFileManager files = compiler.getStandardFileManager(null, null, null)) {
       JavacTask task = (JavacTask) compiler.getTask(null, files, null, List.of("-proc:none"), null,
           files.getJavaFileObjects(Path.of("src/main/java/MilkHorse.java")));
       Iterable<? extends CompilationUnitTree> units = task.parse();
       task.analyze();
-      CallScanner scanner = new CallScanner(Trees.instance(task), calls);
+      TreePathScanner<Void, String> scanner = scannerOf.apply(Trees.instance(task));
       for (CompilationUnitTree unit : units) scanner.scan(unit, null);
     }
-    return calls;
+  }
+
+  /** Takes down which fields and functions of other classes than the program's own are named. */
+  private static final class LibraryScanner extends TreePathScanner<Void, String> {
+    private final Trees trees;
+    private final Set<String> used;
+
+    LibraryScanner(Trees trees, Set<String> used) {
+      this.trees = trees;
+      this.used = used;
+    }
+
+    @Override
+    public Void visitMemberSelect(MemberSelectTree tree, String in) {
+      Element e = trees.getElement(getCurrentPath());
+      if (e != null && (e.getKind().isField() || e.getKind() == ElementKind.METHOD)) {
+        String owner = e.getEnclosingElement().toString();
+        if (!owner.startsWith("MilkHorse")) used.add(owner + "." + e.getSimpleName());
+      }
+      return super.visitMemberSelect(tree, in);
+    }
   }
 
   /** Takes down which methods each method calls; what it goes through carries the method's name. */
